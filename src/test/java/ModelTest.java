@@ -15,10 +15,13 @@ public final class ModelTest {
     private final BurntLedger ledger = new BurntLedger();
     private final PlainLedger model = new PlainLedger();
     private boolean differs = false;
+    /** A FILLING of the latest planted book (-1: no CELL), so that SUMS can be written that come out. */
+    private final int[] planted = new int[12];
 
     private ModelTest(int seed) {
         this.seed = seed;
         this.random = new Random(seed);
+        java.util.Arrays.fill(planted, -1);
     }
 
     private static Map<String, Method> methodsOf(Class<?> type) {
@@ -124,8 +127,103 @@ public final class ModelTest {
         else text.setLength(place);
     }
 
+    private int cell() {
+        for (int tries = 0; tries < 20 && !oneIn(15); tries++) {
+            int c = upTo(11);
+            if (planted[c] >= 0) return c;
+        }
+        return about(0, 11);
+    }
+
+    /** A number of a CELL's, mostly one that it can have. */
+    private int numberFor(int c) {
+        boolean known = c >= 0 && c < 12 && planted[c] >= 0;
+        return known && !oneIn(3) ? Math.max(0, Math.min(99, planted[c] + (oneIn(2) ? 0 : upTo(2) - 1))) : about(0, 99);
+    }
+
+    private int there() {
+        int bits = 0;
+        for (int c = 0; c < 12; c++) bits |= planted[c] >= 0 ? 1 << c : 0;
+        return bits;
+    }
+
+    private int someCells() {
+        int bits = random.nextInt(4096) & (oneIn(2) ? 4095 : random.nextInt(4096));
+        return oneIn(6) ? bits : bits & there();
+    }
+
+    private String plantedItem(char own, int v) {
+        int low = Math.max(0, v - upTo(4));
+        int high = Math.min(99, v + upTo(oneIn(9) ? 60 : 4));
+        switch (random.nextInt(8)) {
+            case 0:
+                char units = oneIn(3) ? '?' : v % 10 == 3 || v % 10 == 8 ? 'x' : (char) ('0' + v % 10);
+                char tens = oneIn(3) ? '?' : v / 10 == 3 || v / 10 == 8 ? 'x' : (char) ('0' + v / 10);
+                return own + "=" + (v < 10 && oneIn(2) ? "" : tens) + units;
+            case 1: case 2: return own + "#";
+            case 3: return own + "~" + (v == 0 ? upTo(9) + "," + (9 + upTo(5)) : low + "," + high);
+            case 4: case 5: {
+                for (int tries = 0; tries < 30; tries++) {
+                    int other = upTo(11);
+                    if (planted[other] >= 0 && planted[other] < v) return own + ">" + (char) ('a' + other);
+                }
+                break;
+            }
+            case 6: case 7: {
+                for (int tries = 0; tries < 30; tries++) {
+                    int a = upTo(11);
+                    int b = oneIn(4) ? a : upTo(11);
+                    if (a != own - 'a' && b != own - 'a' && planted[a] >= 0 && planted[b] >= 0 && planted[a] * planted[b] == v) {
+                        return own + "*" + (char) ('a' + a) + (char) ('a' + b);
+                    }
+                }
+                break;
+            }
+            default: break;
+        }
+        return own + "[" + low + "," + high + "]";
+    }
+
+    private int plantedNumber(int c) {
+        for (int tries = 0; tries < 12; tries++) {
+            int a = upTo(11);
+            int b = oneIn(4) ? a : upTo(11);
+            boolean product = a != c && b != c && planted[a] >= 0 && planted[b] >= 0 && planted[a] * planted[b] < 100;
+            if (product) return planted[a] * planted[b];
+        }
+        return oneIn(4) ? upTo(99) : upTo(9);
+    }
+
+    /** A book and a heap that have at least one FILLING. */
+    private void plantBook() {
+        java.util.Arrays.fill(planted, -1);
+        int many = 1 + upTo(oneIn(4) ? 11 : 6);
+        for (int k = 0; k < many; k++) {
+            int c = upTo(11);
+            if (planted[c] < 0) planted[c] = plantedNumber(c);
+        }
+        StringBuilder text = new StringBuilder();
+        StringBuilder same = new StringBuilder();
+        for (int c = 0; c < 12; c++) {
+            if (planted[c] < 0) continue;
+            String item = plantedItem((char) ('a' + c), planted[c]);
+            text.append(item);
+            if (item.endsWith("#")) same.append((char) planted[c]);
+        }
+        while (same.length() < 12 && !oneIn(3)) same.insert(upTo(same.length()), (char) (oneIn(2) ? upTo(9) : upTo(99)));
+        writeText(text.length() > 60 ? text.substring(0, 60) : text.toString());
+        int r = upTo(5);
+        ask("row", r, same.length());
+        for (int i = 0; i < same.length(); i++) ask("lay", r, i, (int) same.charAt(i));
+        ask("heap", r);
+        if (!oneIn(4)) ask("clear");
+    }
+
     private void writeBook() {
-        String text = bookText();
+        writeText(bookText());
+    }
+
+    private void writeText(String text) {
         int t = upTo(3);
         ask("text", t, text.length());
         for (int i = 0; i < text.length(); i++) {
@@ -144,25 +242,17 @@ public final class ModelTest {
     }
 
     private void writeSum() {
-        int plus = random.nextInt(4096) & random.nextInt(4096);
-        int less = oneIn(2) ? 0 : random.nextInt(4096) & random.nextInt(4096) & ~plus;
+        int plus = someCells();
+        int less = oneIn(2) ? 0 : someCells() & ~plus;
         ask("sum", oneIn(30) ? about(0, 4095) : plus, oneIn(30) ? about(0, 4095) : less, oneIn(30) ? about(-999, 9999) : upTo(120) - 20);
     }
 
-    /** A SUM that a FILLING meets, so that what is left can be narrowed without being emptied. */
     private void writeSumThatFits() {
-        int r = upTo(5);
-        if (ask("fill", upTo(3), r, 20000) != 1) return;
-        int plus = random.nextInt(4096) & random.nextInt(4096);
-        int less = oneIn(2) ? 0 : random.nextInt(4096) & random.nextInt(4096) & ~plus;
+        int plus = someCells();
+        int less = oneIn(2) ? 0 : someCells() & ~plus;
         int total = 0;
-        for (int c = 0; c < 12; c++) {
-            ask("at", r, c);
-            int number = Math.max(0, ledger.asked());
-            total += ((plus >> c & 1) - (less >> c & 1)) * number;
-        }
-        ask("sum", plus, less, total);
-        ask("judge", r);
+        for (int c = 0; c < 12; c++) total += ((plus >> c & 1) - (less >> c & 1)) * Math.max(0, planted[c]);
+        ask("sum", plus, less, total + (oneIn(9) ? upTo(4) - 2 : 0));
     }
 
     private void judgeOne() {
@@ -171,7 +261,8 @@ public final class ModelTest {
             ask("row", r, oneIn(9) ? 11 : 12);
             for (int c = 0; c < 12; c++) ask("lay", r, c, oneIn(2) ? -1 : upTo(20));
         } else if (ask("fill", upTo(2), r, 20000) == 1 && !oneIn(4)) {
-            ask("lay", r, upTo(11), oneIn(5) ? about(-1, 100) : upTo(30));
+            int c = upTo(11);
+            ask("lay", r, c, oneIn(5) ? about(-1, 100) : numberFor(c));
         }
         ask("judge", r);
     }
@@ -217,29 +308,49 @@ public final class ModelTest {
             case 1: ask("total", about(0, 7), about(-999, 9999)); break;
             case 2: if (oneIn(2)) ask("clear"); break;
             case 3: if (oneIn(2)) ask("heap", about(0, 5)); break;
-            case 4: ask("read", about(0, 11), about(0, 99)); break;
-            case 5: ask("kind", about(0, 11)); break;
+            case 4: readOne(); break;
+            case 5: ask("kind", cell()); break;
             case 6: ask("there", about(0, 4)); break;
-            default: ask("mark", about(0, 11), about(0, 5));
+            default: markOne();
         }
+    }
+
+    private void markOne() {
+        int c = cell();
+        for (int kind = 0; kind <= 6; kind++) ask("mark", c, kind);
+    }
+
+    private void readOne() {
+        int c = cell();
+        if (oneIn(3)) ask("read", c, numberFor(c));
     }
 
     private void askNarrowed() {
         switch (random.nextInt(5)) {
-            case 0: ask("left", about(0, 11), about(0, 1)); break;
-            case 1: ask("ends", about(0, 11)); break;
-            case 2: ask("may", about(0, 11), about(0, 99)); break;
+            case 0: ask("left", cell(), about(0, 1)); break;
+            case 1: ask("ends", cell()); break;
+            case 2: askMay(); break;
             case 3: ask("burnt"); break;
             default: if (model.matchWork() < 1e5) ask("matches");
         }
+    }
+
+    private void askMay() {
+        int c = cell();
+        ask("may", c, numberFor(c));
+    }
+
+    private void askCould() {
+        int c = cell();
+        ask("could", c, numberFor(c), turns());
     }
 
     private void askFillings() {
         switch (random.nextInt(7)) {
             case 0: ask("count", turns()); break;
             case 1: ask("fill", oneIn(9) ? about(0, 2000) : upTo(9), about(0, 5), turns()); break;
-            case 2: ask("could", about(0, 11), oneIn(3) ? about(0, 99) : upTo(12), turns()); break;
-            case 3: ask("must", about(0, 11), turns()); break;
+            case 2: askCould(); break;
+            case 3: ask("must", cell(), turns()); break;
             case 4: ask("sure", turns()); break;
             case 5: if (oneIn(3)) ask("wrong", turns()); break;
             default: ask("next", turns());
@@ -248,9 +359,9 @@ public final class ModelTest {
 
     private void act() {
         switch (random.nextInt(24)) {
-            case 0: writeBook(); break;
-            case 1: writeHeap(); break;
-            case 2: writeSum(); break;
+            case 0: if (oneIn(3)) writeBook(); else plantBook(); break;
+            case 1: if (oneIn(3)) writeHeap(); break;
+            case 2: if (oneIn(3)) writeSum(); break;
             case 3: case 4: writeSumThatFits(); break;
             case 5: judgeOne(); break;
             case 6: orderPages(); break;
@@ -266,10 +377,7 @@ public final class ModelTest {
     }
 
     private boolean run(int acts) {
-        if (!oneIn(5)) {
-            writeHeap();
-            writeBook();
-        }
+        if (!oneIn(9)) plantBook();
         for (int k = 0; k < acts && !differs; k++) act();
         return !differs;
     }
