@@ -10,14 +10,14 @@ public final class BurntLedger {
     private static final int MISSING = -1;
 
     private static final int ROWS = 6, ROW_SIZE = 40;
-    private static final int TEXTS = 4, TEXT_SIZE = 60;
+    private static final int TEXTS = 4, TEXT_SIZE = 60, BLANK = 32;
     private static final int CELLS = 12, NUMBERS = 100;
     private static final int SUMS = 8, LEAST_TOTAL = -999, GREATEST_TOTAL = 9999;
     private static final int HEAP_SIZE = 12, WEIGHTS = 10, PAGES = 6;
     private static final int TURNS = 20000;
 
-    private final Rows rows = new Rows();
-    private final Texts texts = new Texts();
+    private final Rows rows = new Rows(ROWS, ROW_SIZE, 0);
+    private final Rows texts = new Rows(TEXTS, TEXT_SIZE, BLANK);
     private final Reader reader = new Reader();
     private final Heap theHeap = new Heap();
     private final Cells cells = new Cells(theHeap);
@@ -126,7 +126,7 @@ public final class BurntLedger {
             return found(BEYOND);
         }
         int before = texts.get(t, i);
-        texts.set(t, i, v);
+        texts.set(t, i, (byte) v);
         return before + 1000;
     }
 
@@ -650,10 +650,20 @@ public final class BurntLedger {
         return Math.max(a, 1);
     }
 
-    /** ROWS keep their full room, so that making one anew makes no object. */
+    /** ROWS, or TEXTS. They keep their full room, so that making one anew makes no object. */
     private static final class Rows {
-        private final int[][] places = new int[ROWS][ROW_SIZE];
-        private final int[] sizes = {MISSING, MISSING, MISSING, MISSING, MISSING, MISSING};
+        private final int[][] places;
+        private final int[] sizes;
+        private final int empty;
+
+        Rows(int many, int longest, int empty) {
+            this.places = new int[many][longest];
+            this.sizes = new int[many];
+            this.empty = empty;
+            for (int r = 0; r < many; r++) {
+                sizes[r] = MISSING;
+            }
+        }
 
         boolean isThere(int r) {
             return sizes[r] != MISSING;
@@ -678,7 +688,7 @@ public final class BurntLedger {
         void make(int r, int n) {
             sizes[r] = n;
             for (int i = 0; i < n; i++) {
-                places[r][i] = 0;
+                places[r][i] = empty;
             }
         }
 
@@ -713,14 +723,14 @@ public final class BurntLedger {
 
         int howMany() {
             int n = 0;
-            for (int r = 0; r < ROWS; r++) {
+            for (int r = 0; r < sizes.length; r++) {
                 n += isThere(r) ? 1 : 0;
             }
             return n;
         }
 
         long mixInto(long h) {
-            for (int r = 0; r < ROWS; r++) {
+            for (int r = 0; r < sizes.length; r++) {
                 h = 31 * h + sizes[r];
                 for (int i = 0; i < sizes[r]; i++) {
                     h = 31 * h + places[r][i];
@@ -730,73 +740,22 @@ public final class BurntLedger {
         }
     }
 
-    private static final class Texts {
-        private static final int BLANK = 32;
-
-        private final byte[][] bytes = new byte[TEXTS][TEXT_SIZE];
-        private final int[] sizes = {MISSING, MISSING, MISSING, MISSING};
-
-        boolean isThere(int t) {
-            return sizes[t] != MISSING;
-        }
-
-        int sizeOf(int t) {
-            return sizes[t];
-        }
-
-        byte[] bytesOf(int t) {
-            return bytes[t];
-        }
-
-        int get(int t, int i) {
-            return bytes[t][i];
-        }
-
-        void set(int t, int i, int v) {
-            bytes[t][i] = (byte) v;
-        }
-
-        void make(int t, int n) {
-            sizes[t] = n;
-            for (int i = 0; i < n; i++) {
-                bytes[t][i] = BLANK;
-            }
-        }
-
-        int howMany() {
-            int n = 0;
-            for (int t = 0; t < TEXTS; t++) {
-                n += isThere(t) ? 1 : 0;
-            }
-            return n;
-        }
-
-        long mixInto(long h) {
-            for (int t = 0; t < TEXTS; t++) {
-                h = 31 * h + sizes[t];
-                for (int i = 0; i < sizes[t]; i++) {
-                    h = 31 * h + bytes[t][i];
-                }
-            }
-            return h;
-        }
-    }
-
     /** Reads a TEXT into a draft, so that one with a FAULT leaves THE BOOK as it was. */
     private static final class Reader {
-        private static final int BLANK = 32, END = 1000;
-        private static final int FIRST_LETTER = 97;
+        /** No byte is that, so no item goes on with it. */
+        private static final int END = 1000;
+        private static final int FIRST_LETTER = 'a';
 
         private final int[] kinds = new int[CELLS];
         private final int[] firsts = new int[CELLS];
         private final int[] seconds = new int[CELLS];
-        private byte[] signs = new byte[0];
+        private int[] signs = new int[0];
         private int size = 0;
         private int place = 0;
         private boolean stuck = false;
 
-        int findFault(Texts texts, int t) {
-            signs = texts.bytesOf(t);
+        int findFault(Rows texts, int t) {
+            signs = texts.placesOf(t);
             size = texts.sizeOf(t);
             place = 0;
             stuck = false;
@@ -1039,6 +998,11 @@ public final class BurntLedger {
             }
         }
 
+        /** The RULES of other KINDS are met by each number that is left. */
+        boolean looksAtOthers(int c) {
+            return kinds[c] == TIMES || kinds[c] == SAME || kinds[c] == ORDER;
+        }
+
         /** Whether a RULE holds among others: all that it names are told, and its KIND allows it. */
         boolean holdsAmong(int c, int[] told) {
             switch (kinds[c]) {
@@ -1240,9 +1204,7 @@ public final class BurntLedger {
             widen();
         }
 
-        /** A missing CELL never has a number left, and does not count as one that was emptied. */
         private void widen() {
-            leaveNothing();
             emptied = false;
             for (int c = 0; c < CELLS; c++) {
                 if (cells.isThere(c)) {
@@ -1466,10 +1428,9 @@ public final class BurntLedger {
             for (int c = 0; c < CELLS; c++) {
                 rulesAt[c] = 0;
                 sumsAt[c] = 0;
-                told[c] = 0;
             }
             for (int c = 0; c < CELLS; c++) {
-                if (cells.isThere(c)) {
+                if (cells.looksAtOthers(c)) {
                     rulesAt[cells.lastNamed(c)] |= 1 << c;
                 }
             }
@@ -1687,7 +1648,7 @@ public final class BurntLedger {
         private final int[] same = new int[CELLS];
         private final int[] open = new int[CELLS];
         private final int[] used = new int[CELLS];
-        private final int[] ahead = new int[1 << HEAP_SIZE];
+        private final boolean[] reached = new boolean[1 << HEAP_SIZE];
         private final int[] behind = new int[1 << HEAP_SIZE];
         private int size = 0;
 
@@ -1700,7 +1661,7 @@ public final class BurntLedger {
         /** What is left has to be narrowed ahead. */
         void match() {
             findOpenPlaces();
-            countAhead();
+            findReached();
             countBehind();
             for (int k = 0; k < size; k++) {
                 used[k] = usedPlaces(k);
@@ -1734,16 +1695,16 @@ public final class BurntLedger {
             return k < size ? open[k] & ~set : 0;
         }
 
-        /** In how many ways the first CELLS take just a set. */
-        private void countAhead() {
+        /** Which sets the first CELLS can take, just as many as there are places in it. */
+        private void findReached() {
             for (int set = 0; set < sets(); set++) {
-                ahead[set] = set == 0 ? 1 : 0;
+                reached[set] = set == 0;
             }
             for (int set = 0; set < sets(); set++) {
-                int free = ahead[set] == 0 ? 0 : openBehind(set);
+                int free = reached[set] ? openBehind(set) : 0;
                 for (int p = 0; p < HEAP_SIZE && free >> p != 0; p++) {
                     if ((free >> p & 1) != 0) {
-                        ahead[set | 1 << p] += ahead[set];
+                        reached[set | 1 << p] = true;
                     }
                 }
             }
@@ -1765,7 +1726,7 @@ public final class BurntLedger {
         private int usedPlaces(int k) {
             int places = 0;
             for (int set = 0; set < sets(); set++) {
-                if (Integer.bitCount(set) != k || ahead[set] == 0) {
+                if (Integer.bitCount(set) != k || !reached[set]) {
                     continue;
                 }
                 int free = openBehind(set);

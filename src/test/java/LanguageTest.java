@@ -99,7 +99,7 @@ public final class LanguageTest {
 
     /** All objects are made in constructors, so that a run makes no more than its ledgers. */
     private static void checkMakesNothing(String code) {
-        Pattern initialiser = Pattern.compile("^ +private (final )?[\\w\\[\\]]+ \\w+ = new [^;]*;$");
+        Pattern initialiser = Pattern.compile("^ +(private (final )?[\\w\\[\\]]+ |this\\.)\\w+ = new [^;]*;$");
         for (String line : code.split("\n")) {
             if (line.matches(".*\\bnew\\b.*")) check(initialiser.matcher(line).matches(), "an object made outside a field: " + line);
         }

@@ -119,6 +119,7 @@ public final class PromiseTest {
         due("row(5, 40)", x.row(5, 40), 40);
         due("at(5, 39)", x.at(5, 39), 1);
         due("asked()", x.asked(), 0);
+        x.lay(5, 0, 7);
         x.lay(5, 2, 7);
         due("row(5, 3) anew", x.row(5, 3), 3);
         dueRow("row(5, 3) anew", 5, 0, 0, 0);
@@ -204,6 +205,11 @@ public final class PromiseTest {
         lay(0, 1, 2, 4);
         due("mean(0)", x.mean(0), 1);
         due("asked()", x.asked(), 2);
+        lay(0, 5, 100);
+        x.row(0, 1);
+        x.lay(0, 0, 5);
+        x.mean(0);
+        due("asked(): of one", x.asked(), 5);
         lay(0, -1, -2, -4, 0);
         x.mean(0);
         due("asked(): cut, not rounded down", x.asked(), -1);
@@ -299,6 +305,9 @@ public final class PromiseTest {
         dueFault("a~1,2]", 5);
         dueFault("a#" + (char) 0, 2);
         dueFault("a#" + (char) 225 + "#", 2);
+        dueFault("a#b", 3);
+        dueFault("a", 1);
+        dueFault("a#", NONE);
         write(1, "a#                                                         b");
         due("fault at the end of sixty", x.fault(1), 60);
         refused("fault(4)", () -> x.fault(4), BAD);
@@ -395,6 +404,9 @@ public final class PromiseTest {
         found("heap(1) with -1", () -> x.heap(1), UNLIKE);
         found("heap(3)", () -> x.heap(3), NOTHING);
         refused("heap(6)", () -> x.heap(6), BAD);
+        heap(0, 0, 1);
+        heap(1);
+        due("may(0, 0): not in THE HEAP any more", x.may(0, 0), 0);
         x.row(3, 0);
         due("heap(3) of none", x.heap(3), 0);
         due("left(0, 0)", x.left(0, 0), 0);
@@ -490,6 +502,9 @@ public final class PromiseTest {
 
     private static void ends() {
         begin(20);
+        book("a>bb[0,99]");
+        due("ends(0): narrowed from all", x.ends(0), 1);
+        due("asked()", x.asked(), 99);
         book("a~5,9b[0,20]c[3,3]");
         x.sum(3, 4, 10);
         due("ends(1)", x.ends(1), 4);
@@ -521,6 +536,19 @@ public final class PromiseTest {
         due("asked()", x.asked(), 99);
         due("ends(1)", x.ends(1), 5);
         due("asked()", x.asked(), 98);
+        book("a>bb[0,5]");
+        due("ends(1)", x.ends(1), 0);
+        book("a[0,9]b[0,20]");
+        x.sum(1, 2, -5);
+        due("ends(1): one that is less", x.ends(1), 5);
+        due("asked()", x.asked(), 14);
+        x.clear();
+        book("a*bcb[1,9]c[1,5]d[0,1]");
+        x.sum(9, 0, 12);
+        due("ends(1): 2 times 5 is below 11", x.ends(1), 3);
+        due("asked()", x.asked(), 6);
+        due("ends(2)", x.ends(2), 2);
+        due("asked()", x.asked(), 4);
     }
 
     private static void may() {
@@ -563,6 +591,9 @@ public final class PromiseTest {
         x.clear();
         x.sum(2, 0, 2);
         due("burnt(): another CELL has none", x.burnt(), NONE);
+        book("a>l b[0,99]c[0,99]");
+        x.sum(7, 0, 150);
+        due("burnt(): whatever the others make", x.burnt(), 1);
     }
 
     private static void count() {
@@ -592,6 +623,18 @@ public final class PromiseTest {
         book("a>b b[96,98]");
         due("count(20000)", x.count(20000), 6);
         due("asked()", x.asked(), 3 + 9);
+        book("a*bcb[2,3]c[2,3]");
+        due("count(99): looked at behind c", x.count(99), 4);
+        due("asked()", x.asked(), 6 + 12 + 24);
+        book("a[2,3]b*acc[2,3]");
+        due("count(99)", x.count(99), 4);
+        due("asked()", x.asked(), 2 + 12 + 24);
+        book("a[1,3]b[1,3]");
+        x.sum(3, 0, 4);
+        x.sum(1, 2, 0);
+        due("count(99): two SUMS end at b", x.count(99), 1);
+        due("asked()", x.asked(), 12);
+        x.clear();
         book("");
         due("count(1): without CELLS", x.count(1), 1);
     }
@@ -613,6 +656,12 @@ public final class PromiseTest {
         refused("fill(0, 6, 6)", () -> x.fill(0, 6, 6), BAD);
         refused("fill(0, 1, 0)", () -> x.fill(0, 1, 0), BAD);
         refused("fill(0, 1, 20001)", () -> x.fill(0, 1, 20001), BAD);
+        book("a[1,2]b[1,2]");
+        x.sum(3, 0, 3);
+        due("fill(1, 1, 99): by SUMS", x.fill(1, 1, 99), 1);
+        dueRow("fill by SUMS", 1, filling(2, 1));
+        refused("fill(2, 1, 99)", () -> x.fill(2, 1, 99), NONE);
+        x.clear();
         book("");
         due("fill(0, 2, 1): without CELLS", x.fill(0, 2, 1), 1);
         dueRow("fill without CELLS", 2, filling());
@@ -638,8 +687,11 @@ public final class PromiseTest {
         due("could(0, 99, 999)", x.could(0, 99, 999), 0);
         due("upper()", x.upper(), 0);
         due("lower()", x.lower(), 1);
-        book("a[1,1]");
         x.clear();
+        book("a[0,0]");
+        due("could(0, 0, 1)", x.could(0, 0, 1), 1);
+        due("could(0, 0, 1) again", x.could(0, 0, 1), 1);
+        book("a[1,1]");
         due("could(0, 1, 1)", x.could(0, 1, 1), 1);
         due("upper()", x.upper(), 1);
         due("lower()", x.lower(), 1);
@@ -686,8 +738,10 @@ public final class PromiseTest {
         refused("sure(0)", () -> x.sure(0), BAD);
         x.total(0, 19);
         due("sure(999): no FILLING", x.sure(999), 0);
-        book("");
         x.clear();
+        book("a[0,0]b[0,1]c[1,2]");
+        due("sure(99): nought, too", x.sure(99), 1);
+        book("");
         due("sure(1): no CELLS", x.sure(1), 0);
     }
 
@@ -743,6 +797,11 @@ public final class PromiseTest {
         x.sum(2048, 0, 7);
         due("wrong(2): two STEPS without it", x.wrong(2), 1);
         refused("wrong(1)", () -> x.wrong(1), SPENT);
+        x.clear();
+        book("a[0,99]");
+        x.sum(1, 0, 50);
+        x.sum(1, 0, 60);
+        due("wrong(1): one STEP, NARROWED by the other", x.wrong(1), 1);
         heap(1);
         book("a#b#");
         refused("wrong(99): not without any", () -> x.wrong(99), NONE);
@@ -757,6 +816,11 @@ public final class PromiseTest {
         x.sum(2, 0, 2);
         due("next(99)", x.next(99), 0);
         due("asked()", x.asked(), 1);
+        x.clear();
+        book("a[0,0]b[1,2]");
+        due("next(99): nought is a number", x.next(99), 1);
+        due("asked()", x.asked(), 1);
+        x.sum(2, 0, 1);
         refused("next(1)", () -> x.next(1), SPENT);
         refused("next(0)", () -> x.next(0), BAD);
         x.total(0, 9);
@@ -799,8 +863,9 @@ public final class PromiseTest {
         dueJudge(NONE, 9, 3, 3, 7, 4, 4, 4, 0);
         dueJudge(200, 16, 2, 8, 4, 4, 7, 99, 6);
         dueJudge(101, 3, 1, 3, 4, 7, 4, 4, 0);
-        book("b>a");
         x.clear();
+        dueJudge(NONE, 16, 2, 8, 4, 4, 7, 99, 6);
+        book("b>a");
         dueJudge(101, -1, 5);
         dueJudge(100, 3, 5);
         book("a>b");
@@ -839,8 +904,13 @@ public final class PromiseTest {
         found("orders(1) with -1", () -> x.orders(1), UNLIKE);
         lay(1, 10000, 0);
         found("orders(1) with 10000", () -> x.orders(1), UNLIKE);
-        lay(1, -10, NONE);
+        lay(1, -10, NONE, -1);
+        x.row(1, 2);
+        x.lay(1, 0, -10);
         found("orders(1) with -10", () -> x.orders(1), UNLIKE);
+        x.row(1, 1);
+        x.row(1, 2);
+        due("orders(1): what was behind the ROW is no matter", x.orders(1), 1);
         found("orders(2)", () -> x.orders(2), NOTHING);
         refused("orders(6)", () -> x.orders(6), BAD);
         refused("orders(-1)", () -> x.orders(-1), BAD);
@@ -872,6 +942,10 @@ public final class PromiseTest {
         x.sum(1, 8, 1);
         x.sum(2, 16, 1);
         dueMatches(2, 4);
+        x.clear();
+        x.sum(2, 8, 1);
+        x.sum(4, 16, 1);
+        dueMatches(2, 1);
         heap(1, 2);
         dueMatches(0, 0);
         x.clear();
