@@ -57,7 +57,7 @@ public final class SentenceTest {
         String more = left.toString().replaceAll("`[^`]*\\)`:", "").replaceAll("Ahead of the calls .*?the interface says: ---- [^.]*\\.", "")
             .replaceAll("======== \\d ", "");
         List<String> over = new ArrayList<>();
-        for (String words1 : more.split("\\|")) if (words1.matches(".*\\w.*")) over.add(words1.strip());
+        for (String piece : more.split("\\|")) if (piece.matches(".*\\w.*")) over.add(piece.strip());
         if (!over.isEmpty()) tell("no test for these words: " + heading + " " + over);
     }
 
