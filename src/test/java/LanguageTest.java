@@ -4,7 +4,12 @@ import java.lang.reflect.Method;
 import java.lang.reflect.Modifier;
 import java.nio.file.Files;
 import java.nio.file.Path;
+import java.util.ArrayList;
+import java.util.HashMap;
+import java.util.List;
+import java.util.Map;
 import java.util.Set;
+import java.util.TreeMap;
 import java.util.TreeSet;
 import java.util.regex.Matcher;
 import java.util.regex.Pattern;
@@ -120,6 +125,62 @@ public final class LanguageTest {
         }
     }
 
+    /** Methods by class and name ("Walk.tell"), each with those that it calls. */
+    private static Map<String, Set<String>> callsOf(String code) {
+        Map<String, String> types = new HashMap<>();
+        Matcher declared = Pattern.compile("\\b([A-Z]\\w+) (\\w+)(?= =|,|\\))").matcher(code);
+        while (declared.find()) types.put(declared.group(2), declared.group(1));
+        Map<String, StringBuilder> bodies = new TreeMap<>();
+        String type = "BurntLedger";
+        StringBuilder body = new StringBuilder();
+        for (String line : code.split("\n")) {
+            Matcher inside = Pattern.compile("^ {4}private static final class (\\w+) \\{$").matcher(line);
+            Matcher method = Pattern.compile("^ {4,8}(?! )[\\w\\[\\] ]+? (\\w+)\\(.*\\) \\{$").matcher(line);
+            if (inside.matches()) type = inside.group(1);
+            else if (method.matches()) bodies.put(type + "." + method.group(1), body = new StringBuilder());
+            else body.append(line).append('\n');
+        }
+        Map<String, Set<String>> calls = new TreeMap<>();
+        bodies.forEach((caller, lines) -> {
+            String own = caller.substring(0, caller.indexOf('.'));
+            Matcher call = Pattern.compile("(?:\\b(\\w+)\\.)?\\b(\\w+)\\(").matcher(lines);
+            Set<String> called = new TreeSet<>();
+            while (call.find()) {
+                String to = call.group(1) == null ? own : types.getOrDefault(call.group(1), call.group(1));
+                String outer = "BurntLedger." + call.group(2);
+                called.add(call.group(1) == null && !bodies.containsKey(to + "." + call.group(2)) ? outer : to + "." + call.group(2));
+            }
+            called.removeIf(name -> !bodies.containsKey(name) && !name.matches("(Math|Integer|System)\\..*"));
+            calls.put(caller, called);
+        });
+        return calls;
+    }
+
+    /** The longest chain of calls from a method on; one that calls itself is counted once. */
+    private static List<String> longestChain(String method, Map<String, Set<String>> calls, List<String> ahead) {
+        List<String> chain = new ArrayList<>(ahead);
+        chain.add(method);
+        List<String> longest = chain;
+        for (String next : calls.getOrDefault(method, Set.of())) {
+            if (chain.contains(next)) continue;
+            List<String> longer = longestChain(next, calls, chain);
+            if (longer.size() > longest.size()) longest = longer;
+        }
+        return longest;
+    }
+
+    private static void checkDepth(String code) {
+        Map<String, Set<String>> calls = callsOf(code);
+        check(calls.getOrDefault("Narrowing.narrow", Set.of()).contains("Narrowing.narrowBySum"), "calls of the source are found");
+        check(calls.getOrDefault("BurntLedger.fill", Set.of()).contains("Walk.goTo"), "calls of other classes are found");
+        for (String method : calls.keySet()) {
+            List<String> chain = longestChain(method, calls, List.of());
+            check(chain.size() <= 8, "calls go eight deep at most: " + chain);
+            if (!calls.get(method).contains(method)) continue;
+            check(Set.of("Walk.tell", "Pages.place").contains(method), method + " calls itself: does its depth have an end?");
+        }
+    }
+
     public static void main(String[] args) throws IOException {
         String code = withoutComments(Files.readString(Path.of("src/main/java/BurntLedger.java")));
         checkFace();
@@ -127,6 +188,7 @@ public final class LanguageTest {
         checkWords(code);
         checkMakesNothing(code);
         checkMethodsAreShort(code);
+        checkDepth(code);
         System.out.println(wrong == 0 ? "the source keeps to the rules looked at" : wrong + " rules are broken");
         if (wrong != 0) System.exit(1);
     }
